@@ -4,8 +4,8 @@ import java.util.Random;
 public final class ModelTest {
     private static final Checks CHECKS = new Checks();
     private static final int RUNS = 4000;
-    // With the sweep of 112 words at the end, a run stays below the document's 512 calls.
-    private static final int CALLS = 160;
+    // With the sweep of 112 words and 9 looks at the end, a run has the document's 512 calls.
+    private static final int CALLS = 512 - 2 * 112 - 9;
     private static final long[] LONGS = {
         0, 1, -1, 4, 1L << 32, Long.MAX_VALUE, Long.MIN_VALUE, Integer.MAX_VALUE, Integer.MIN_VALUE};
     private static final String[] CHANGES = {"add", "push", "push", "pop", "put", "put", "put", "cut"};

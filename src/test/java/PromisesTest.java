@@ -4,10 +4,6 @@ public final class PromisesTest {
     private static final Class<IllegalStateException> STATE = IllegalStateException.class;
     private static final Class<IndexOutOfBoundsException> INDEX = IndexOutOfBoundsException.class;
     private static final Class<UnsupportedOperationException> REFUSED = UnsupportedOperationException.class;
-    private static final int[] NO_INDEX = {-1, Integer.MIN_VALUE, Integer.MAX_VALUE};
-    // Of one loose value, seed 1 keeps the kept one and seed 3 the loose one.
-    private static final int KEEPS_OLD = 1;
-    private static final int KEEPS_NEW = 3;
     // What a commit of one word takes: 2 stores, flush, fence; then three times store, flush, fence.
     private static final int ONE_WORD_STEPS = 13;
 
@@ -42,29 +38,10 @@ public final class PromisesTest {
         CHECKS.end();
     }
 
-    private static WordShelf downShelf() {
-        WordShelf x = new WordShelf();
-        x.crash(0);
-        return x;
-    }
-
-    private static void words(String what, WordShelf x, int from, long... due) {
-        for (int i = 0; i < due.length; i++) {
-            CHECKS.is(what + ": word(" + (from + i) + ", false)", x.word(from + i, false), due[i]);
-            CHECKS.is(what + ": word(" + (from + i) + ", true)", x.word(from + i, true), due[i]);
-        }
-    }
-
-    private static void looks(String what, WordShelf x, int... due) {
-        for (int i = 0; i < due.length; i++) {
-            CHECKS.is(what + ": look(" + i + ")", x.look(i), due[i]);
-        }
-    }
-
     private static void newObject() {
         WordShelf x = new WordShelf();
-        looks("1 new", x, 0, 0, 0, 0, 0, 0, 0, 0, -1);
-        words("1 new", x, 0, new long[112]);
+        CHECKS.looks("1 new", x, 0, 0, 0, 0, 0, 0, 0, 0, -1);
+        CHECKS.words("1 new", x, 0, new long[112]);
         for (int c = 0; c < 4; c++) {
             CHECKS.is("1 counter", x.counter(c), 0);
         }
@@ -90,12 +67,12 @@ public final class PromisesTest {
         CHECKS.is("2 seen", x.counter(0), 4);
         CHECKS.is("2 seen", x.queued(0), 5);
         CHECKS.is("2 seen", x.next(0, true), 6);
-        looks("2 no steps yet", x, 0, 1, 1, 1, 0, 0, 0, 0, -1);
-        words("2 not in the memory", x, 0, new long[31]);
+        CHECKS.looks("2 no steps yet", x, 0, 1, 1, 1, 0, 0, 0, 0, -1);
+        CHECKS.words("2 not in the memory", x, 0, new long[31]);
         x.commit();
         x.begin();
         CHECKS.is("2 begin again", x.look(1), 1);
-        CHECKS.fails("2 begin down", STATE, () -> downShelf().begin());
+        CHECKS.fails("2 begin down", STATE, () -> Shelves.down().begin());
     }
 
     private static void commit() {
@@ -103,7 +80,7 @@ public final class PromisesTest {
         CHECKS.fails("3 commit without begin", STATE, x::commit);
         x.begin();
         CHECKS.is("3 nothing", x.commit(), 0);
-        looks("3 nothing", x, 0, 0, 0, 0, 0, 0, 0, 0, -1);
+        CHECKS.looks("3 nothing", x, 0, 0, 0, 0, 0, 0, 0, 0, -1);
         x.begin();
         x.add(0, 5);
         x.add(0, -5);
@@ -115,13 +92,13 @@ public final class PromisesTest {
         x.push(8);
         CHECKS.is("3 words 3, 5 and 6", x.commit(), 3);
         CHECKS.is("3 ended", x.look(1), 0);
-        words("3 log", x, 40, 0, 0, 0, 0, 0, 0, 0, 0, 3, 0, 5, 0, 6, 0, 0, 0);
-        CHECKS.fails("3 commit down", STATE, () -> downShelf().commit());
+        CHECKS.words("3 log", x, 40, 0, 0, 0, 0, 0, 0, 0, 0, 3, 0, 5, 0, 6, 0, 0, 0);
+        CHECKS.fails("3 commit down", STATE, () -> Shelves.down().commit());
         x.begin();
         x.add(0, 1);
-        x.stop(4, KEEPS_OLD);
+        x.stop(4, Shelves.KEEPS_OLD);
         CHECKS.fails("3 commit at a stop", STATE, x::commit);
-        looks("3 commit at a stop", x, 1, 0, -1, -1);
+        CHECKS.looks("3 commit at a stop", x, 1, 0, -1, -1);
         x.recover();
         CHECKS.is("3 nothing of it", x.counter(0), 0);
         CHECKS.is("3 but the earlier", x.counter(3), 7);
@@ -132,16 +109,16 @@ public final class PromisesTest {
         x.stop(1000, 0);
         x.add(1, 9);
         CHECKS.is("3 steps of one word", 1000 - x.look(8), ONE_WORD_STEPS);
-        looks("3 steps of one word", x, 0, 0, 0, 0, 5, 4, 4, 0);
+        CHECKS.looks("3 steps of one word", x, 0, 0, 0, 0, 5, 4, 4, 0);
         x.begin();
         x.add(1, 1);
         x.put(5, 6);
         CHECKS.is("3 four words", x.commit(), 4);
         // Words 1 (line 0), 14, 15 (line 1), 23 (line 2): a log of one line, three lines of data.
-        looks("3 steps of four words", x, 0, 0, 0, 1, 5 + 14, 4 + 6, 4 + 4, 0);
-        words("3 log of old values", x, 48, 1, 9, 14, 0, 15, 0, 23, 0);
+        CHECKS.looks("3 steps of four words", x, 0, 0, 0, 1, 5 + 14, 4 + 6, 4 + 4, 0);
+        CHECKS.words("3 log of old values", x, 48, 1, 9, 14, 0, 15, 0, 23, 0);
         x.add(2, 1);
-        words("3 log, the rest stays", x, 48, 2, 0, 14, 0, 15, 0, 23, 0);
+        CHECKS.words("3 log, the rest stays", x, 48, 2, 0, 14, 0, 15, 0, 23, 0);
     }
 
     private static void commitOfAllWords() {
@@ -159,10 +136,10 @@ public final class PromisesTest {
         }
         CHECKS.is("3 all words", x.commit(), 31);
         // Log lines 6 to 13, line 5, data lines 0 to 3, line 5.
-        looks("3 all words", x, 0, 0, 7, 8, 62 + 1 + 31 + 1, 8 + 1 + 4 + 1, 4, 0, -1);
-        words("3 all words", x, 0, 1, 2, 3, 4, 1, 7, 1, 2, 3, 4, 5, 6, 7, 8, 8,
+        CHECKS.looks("3 all words", x, 0, 0, 7, 8, 62 + 1 + 31 + 1, 8 + 1 + 4 + 1, 4, 0, -1);
+        CHECKS.words("3 all words", x, 0, 1, 2, 3, 4, 1, 7, 1, 2, 3, 4, 5, 6, 7, 8, 8,
                 10, 20, 30, 40, 50, 60, 70, 80, 100, 200, 300, 400, 500, 600, 700, 800);
-        words("3 end of the log", x, 106, 29, 0, 30, 0, 0, 0);
+        CHECKS.words("3 end of the log", x, 106, 29, 0, 30, 0, 0, 0);
     }
 
     private static void abort() {
@@ -185,7 +162,7 @@ public final class PromisesTest {
         CHECKS.is("4 map", x.next(0, false), 4);
         CHECKS.fails("4 map", INDEX, () -> x.next(4, false));
         CHECKS.fails("4 abort twice", STATE, x::abort);
-        CHECKS.fails("4 abort down", STATE, () -> downShelf().abort());
+        CHECKS.fails("4 abort down", STATE, () -> Shelves.down().abort());
         x.begin();
         CHECKS.is("4 nothing left of it", x.commit(), 0);
     }
@@ -197,16 +174,16 @@ public final class PromisesTest {
         CHECKS.is("5 add to the last", x.add(3, Long.MAX_VALUE), Long.MAX_VALUE);
         CHECKS.is("5 add wraps", x.add(3, 1), Long.MIN_VALUE);
         CHECKS.is("5 add wraps back", x.add(3, -1), Long.MAX_VALUE);
-        words("5 add", x, 0, -3, 0, 0, Long.MAX_VALUE);
+        CHECKS.words("5 add", x, 0, -3, 0, 0, Long.MAX_VALUE);
         int stores = x.look(4);
         CHECKS.is("5 add of 0", x.add(1, 0), 0);
         CHECKS.is("5 add of 0 stores nothing", x.look(4), stores);
         CHECKS.fails("5 add(4)", INDEX, () -> x.add(4, 1));
-        for (int c : NO_INDEX) {
+        for (int c : Shelves.NO_INDEX) {
             CHECKS.fails("5 add(" + c + ")", INDEX, () -> x.add(c, 1));
-            CHECKS.fails("5 add(" + c + ") down", STATE, () -> downShelf().add(c, 1));
+            CHECKS.fails("5 add(" + c + ") down", STATE, () -> Shelves.down().add(c, 1));
         }
-        CHECKS.fails("5 add down", STATE, () -> downShelf().add(0, 1));
+        CHECKS.fails("5 add down", STATE, () -> Shelves.down().add(0, 1));
         x.stop(0, 0);
         CHECKS.fails("5 wrong add before a stop", INDEX, () -> x.add(4, 1));
         CHECKS.is("5 the stop stays", x.look(8), 0);
@@ -220,7 +197,7 @@ public final class PromisesTest {
         for (int i = 1; i <= 8; i++) {
             CHECKS.is("6 push", x.push(i * 11L), i);
         }
-        words("6 ring", x, 4, 0, 8, 11, 22, 33, 44, 55, 66, 77, 88, 0);
+        CHECKS.words("6 ring", x, 4, 0, 8, 11, 22, 33, 44, 55, 66, 77, 88, 0);
         x.stop(0, 0);
         CHECKS.fails("6 push on a full queue", REFUSED, () -> x.push(9));
         CHECKS.is("6 no step", x.look(8), 0);
@@ -228,10 +205,10 @@ public final class PromisesTest {
         x.pop();
         x.pop();
         CHECKS.is("6 push round", x.push(Long.MIN_VALUE), 7);
-        words("6 ring", x, 4, 2, 7, Long.MIN_VALUE, 22, 33);
+        CHECKS.words("6 ring", x, 4, 2, 7, Long.MIN_VALUE, 22, 33);
         CHECKS.is("6 push round", x.push(-1), 8);
-        words("6 ring", x, 4, 2, 8, Long.MIN_VALUE, -1, 33);
-        CHECKS.fails("6 push down", STATE, () -> downShelf().push(1));
+        CHECKS.words("6 ring", x, 4, 2, 8, Long.MIN_VALUE, -1, 33);
+        CHECKS.fails("6 push down", STATE, () -> Shelves.down().push(1));
         WordShelf y = new WordShelf();
         y.stop(0, 0);
         CHECKS.fails("6 push at a stop", STATE, () -> y.push(1));
@@ -251,7 +228,7 @@ public final class PromisesTest {
         x.push(5);
         x.push(-6);
         CHECKS.is("7 pop", x.pop(), 5);
-        words("7 the word stays", x, 4, 1, 1, 5, -6);
+        CHECKS.words("7 the word stays", x, 4, 1, 1, 5, -6);
         CHECKS.is("7 pop", x.pop(), -6);
         x.stop(0, 0);
         CHECKS.fails("7 pop of none", REFUSED, x::pop);
@@ -262,7 +239,7 @@ public final class PromisesTest {
             CHECKS.is("7 pop round", x.pop(), i);
             CHECKS.is("7 first place", x.word(4, false), (3 + i) % 8);
         }
-        CHECKS.fails("7 pop down", STATE, () -> downShelf().pop());
+        CHECKS.fails("7 pop down", STATE, () -> Shelves.down().pop());
         x.push(1);
         x.stop(0, 0);
         CHECKS.fails("7 pop at a stop", STATE, x::pop);
@@ -277,8 +254,8 @@ public final class PromisesTest {
         CHECKS.is("8 put behind", x.put(Long.MAX_VALUE, 2), 3);
         CHECKS.is("8 put between", x.put(0, -3), 4);
         CHECKS.is("8 put over", x.put(5, 55), 4);
-        words("8 pairs", x, 14, 4, Long.MIN_VALUE, 0, 5, Long.MAX_VALUE, 0);
-        words("8 numbers", x, 23, 1, -3, 55, 2, 0);
+        CHECKS.words("8 pairs", x, 14, 4, Long.MIN_VALUE, 0, 5, Long.MAX_VALUE, 0);
+        CHECKS.words("8 numbers", x, 23, 1, -3, 55, 2, 0);
         int stores = x.look(4);
         CHECKS.is("8 put the same", x.put(5, 55), 4);
         CHECKS.is("8 nothing stored", x.look(4), stores);
@@ -290,9 +267,9 @@ public final class PromisesTest {
         CHECKS.is("8 no step", x.look(8), 0);
         x.stop(1000, 0);
         CHECKS.is("8 put over in a full map", x.put(13, 99), 8);
-        words("8 full", x, 14, 8, Long.MIN_VALUE, 0, 5, 10, 11, 12, 13, Long.MAX_VALUE,
+        CHECKS.words("8 full", x, 14, 8, Long.MIN_VALUE, 0, 5, 10, 11, 12, 13, Long.MAX_VALUE,
                 1, -3, 55, 0, 1, 2, 99, 2);
-        CHECKS.fails("8 put down", STATE, () -> downShelf().put(1, 1));
+        CHECKS.fails("8 put down", STATE, () -> Shelves.down().put(1, 1));
         x.stop(0, 0);
         CHECKS.fails("8 put at a stop", STATE, () -> x.put(13, 98));
         x.recover();
@@ -306,12 +283,12 @@ public final class PromisesTest {
             x.put(i, i * 10);
         }
         CHECKS.is("9 cut the last", x.cut(8), true);
-        words("9 the last words stay", x, 14, 7, 1, 2, 3, 4, 5, 6, 7, 8, 10, 20, 30, 40, 50, 60, 70, 80);
+        CHECKS.words("9 the last words stay", x, 14, 7, 1, 2, 3, 4, 5, 6, 7, 8, 10, 20, 30, 40, 50, 60, 70, 80);
         CHECKS.is("9 what stays there is no key", x.cut(8), false);
         CHECKS.is("9 cut the first", x.cut(1), true);
-        words("9 moved down", x, 14, 6, 2, 3, 4, 5, 6, 7, 7, 8, 20, 30, 40, 50, 60, 70, 70, 80);
+        CHECKS.words("9 moved down", x, 14, 6, 2, 3, 4, 5, 6, 7, 7, 8, 20, 30, 40, 50, 60, 70, 70, 80);
         CHECKS.is("9 cut in the middle", x.cut(4), true);
-        words("9 moved down", x, 14, 5, 2, 3, 5, 6, 7, 7, 7, 8, 20, 30, 50, 60, 70, 70, 70, 80);
+        CHECKS.words("9 moved down", x, 14, 5, 2, 3, 5, 6, 7, 7, 7, 8, 20, 30, 50, 60, 70, 70, 70, 80);
         x.stop(0, 0);
         CHECKS.is("9 no such key", x.cut(4), false);
         CHECKS.is("9 no step", x.look(8), 0);
@@ -359,11 +336,11 @@ public final class PromisesTest {
         x.add(2, 1);
         CHECKS.is("11 in a transaction", x.counter(2), 13);
         CHECKS.fails("11 counter(4)", INDEX, () -> x.counter(4));
-        for (int c : NO_INDEX) {
+        for (int c : Shelves.NO_INDEX) {
             CHECKS.fails("11 counter(" + c + ")", INDEX, () -> x.counter(c));
-            CHECKS.fails("11 counter(" + c + ") down", STATE, () -> downShelf().counter(c));
+            CHECKS.fails("11 counter(" + c + ") down", STATE, () -> Shelves.down().counter(c));
         }
-        CHECKS.fails("11 counter down", STATE, () -> downShelf().counter(0));
+        CHECKS.fails("11 counter down", STATE, () -> Shelves.down().counter(0));
     }
 
     private static void queued() {
@@ -381,9 +358,9 @@ public final class PromisesTest {
         CHECKS.fails("12 queued(8)", INDEX, () -> x.queued(8));
         x.pop();
         CHECKS.fails("12 queued(7)", INDEX, () -> x.queued(7));
-        for (int i : NO_INDEX) {
+        for (int i : Shelves.NO_INDEX) {
             CHECKS.fails("12 queued(" + i + ")", INDEX, () -> x.queued(i));
-            CHECKS.fails("12 queued(" + i + ") down", STATE, () -> downShelf().queued(i));
+            CHECKS.fails("12 queued(" + i + ") down", STATE, () -> Shelves.down().queued(i));
         }
         x.begin();
         x.push(99);
@@ -415,12 +392,12 @@ public final class PromisesTest {
         CHECKS.is("13 with a transaction's changes", x.frozen(1, false, 4), 5);
         int stores = x.look(4);
         CHECKS.fails("13 freeze(2)", INDEX, () -> x.freeze(2));
-        for (int s : NO_INDEX) {
+        for (int s : Shelves.NO_INDEX) {
             CHECKS.fails("13 freeze(" + s + ")", INDEX, () -> x.freeze(s));
-            CHECKS.fails("13 freeze(" + s + ") down", STATE, () -> downShelf().freeze(s));
+            CHECKS.fails("13 freeze(" + s + ") down", STATE, () -> Shelves.down().freeze(s));
         }
         CHECKS.is("13 no steps", x.look(4), stores);
-        CHECKS.fails("13 freeze down", STATE, () -> downShelf().freeze(0));
+        CHECKS.fails("13 freeze down", STATE, () -> Shelves.down().freeze(0));
     }
 
     private static void frozen() {
@@ -450,7 +427,7 @@ public final class PromisesTest {
             CHECKS.fails("14 no counter " + c, INDEX, () -> x.frozen(0, true, c));
         }
         CHECKS.fails("14 no snapshot 2", INDEX, () -> x.frozen(2, true, 0));
-        for (int s : NO_INDEX) {
+        for (int s : Shelves.NO_INDEX) {
             CHECKS.fails("14 no snapshot " + s, INDEX, () -> x.frozen(s, true, 0));
         }
         x.crash(0);
@@ -468,12 +445,12 @@ public final class PromisesTest {
         x.add(0, 1);
         x.stop(3, 0);
         x.crash(12345);
-        looks("15 down", x, 1, 0, -1, -1, 5, 4, 4, 1, 3);
-        words("15 kept", x, 0, 5);
+        CHECKS.looks("15 down", x, 1, 0, -1, -1, 5, 4, 4, 1, 3);
+        CHECKS.words("15 kept", x, 0, 5);
         CHECKS.fails("15 crash down", STATE, () -> x.crash(1));
         CHECKS.is("15 crashes", x.look(7), 1);
         CHECKS.is("15 recover", x.recover(), 0);
-        looks("15 up", x, 0, 0, 0, 0, 5, 4, 4, 1, 3);
+        CHECKS.looks("15 up", x, 0, 0, 0, 0, 5, 4, 4, 1, 3);
         CHECKS.is("15 counter", x.counter(0), 5);
         CHECKS.fails("15 the stop stayed", STATE, () -> x.add(0, 1));
         CHECKS.is("15 crashes", x.look(7), 2);
@@ -498,18 +475,18 @@ public final class PromisesTest {
             for (int i = 0; i < 6; i++) {
                 state = (state * 1103515245L + 12345L) & 0xFFFFFFFFL;
                 long due = (state / 65536) % 2 == 1 ? stored[i] : old[i];
-                words("15 seed " + seed, x, 48 + i, due);
+                CHECKS.words("15 seed " + seed, x, 48 + i, due);
             }
-            words("15 the rest", x, 0, 0, 7, 8, 9);
+            CHECKS.words("15 the rest", x, 0, 0, 7, 8, 9);
         }
         WordShelf y = new WordShelf();
-        y.stop(1, KEEPS_OLD);
+        y.stop(1, Shelves.KEEPS_OLD);
         CHECKS.fails("15 seed 1", STATE, () -> y.push(4));
-        words("15 seed 1 keeps the kept value", y, 48, 0);
+        CHECKS.words("15 seed 1 keeps the kept value", y, 48, 0);
         WordShelf z = new WordShelf();
-        z.stop(1, KEEPS_NEW);
+        z.stop(1, Shelves.KEEPS_NEW);
         CHECKS.fails("15 seed 3", STATE, () -> z.push(4));
-        words("15 seed 3 keeps the loose value", z, 48, 5);
+        CHECKS.words("15 seed 3 keeps the loose value", z, 48, 5);
     }
 
     private static void stop() {
@@ -526,7 +503,7 @@ public final class PromisesTest {
         CHECKS.is("16 no step left", x.look(8), 0);
         CHECKS.is("16 reading is no step", x.counter(0), 2);
         CHECKS.fails("16 the next step", STATE, () -> x.add(0, 2));
-        looks("16 gone", x, 1, 0, -1, -1, 5, 4, 4, 1, -1);
+        CHECKS.looks("16 gone", x, 1, 0, -1, -1, 5, 4, 4, 1, -1);
         CHECKS.is("16 stop down", x.stop(3, 1), true);
         CHECKS.is("16 stop down", x.look(8), 3);
         CHECKS.is("16 recover without steps", x.recover(), 0);
@@ -548,9 +525,9 @@ public final class PromisesTest {
         int fences = 0;
         for (int n = 0; n < steps.length(); n++) {
             WordShelf x = new WordShelf();
-            x.stop(n, KEEPS_OLD);
+            x.stop(n, Shelves.KEEPS_OLD);
             CHECKS.fails("16 stop " + n, STATE, () -> x.add(2, 6));
-            looks("16 stop " + n, x, 1, 0, -1, -1, stores, flushes, fences, 1, -1);
+            CHECKS.looks("16 stop " + n, x, 1, 0, -1, -1, stores, flushes, fences, 1, -1);
             stores += steps.charAt(n) == 'S' ? 1 : 0;
             flushes += steps.charAt(n) == 'F' ? 1 : 0;
             fences += steps.charAt(n) == 'E' ? 1 : 0;
@@ -563,7 +540,7 @@ public final class PromisesTest {
         x.add(0, 1);
         x.crash(9);
         CHECKS.is("17 nothing to set back", x.recover(), 0);
-        looks("17 no steps", x, 0, 0, 0, 0, 5, 4, 4, 1, -1);
+        CHECKS.looks("17 no steps", x, 0, 0, 0, 0, 5, 4, 4, 1, -1);
         CHECKS.fails("17 recover twice", STATE, x::recover);
         // Two words; the stop is behind their stores: 4 stores, flush, fence, store, flush, fence, 2 stores.
         x.begin();
@@ -571,14 +548,14 @@ public final class PromisesTest {
         x.add(3, 4);
         x.stop(11, 3);
         CHECKS.fails("17 commit", STATE, x::commit);
-        words("17 log count", x, 40, 2);
+        CHECKS.words("17 log count", x, 40, 2);
         int stores = x.look(4);
         int flushes = x.look(5);
         int fences = x.look(6);
         CHECKS.is("17 two words set back", x.recover(), 2);
-        looks("17 steps", x, 0, 0, 0, 0, stores + 3, flushes + 2, fences + 2, 2, -1);
-        words("17 as before", x, 0, 1, 0, 0, 0);
-        words("17 log count", x, 40, 0);
+        CHECKS.looks("17 steps", x, 0, 0, 0, 0, stores + 3, flushes + 2, fences + 2, 2, -1);
+        CHECKS.words("17 as before", x, 0, 1, 0, 0, 0);
+        CHECKS.words("17 log count", x, 40, 0);
         CHECKS.is("17 counter", x.counter(0), 1);
         CHECKS.is("17 counter", x.counter(3), 0);
         recoverFromKeptCount();
@@ -587,13 +564,13 @@ public final class PromisesTest {
     private static void recoverFromKeptCount() {
         // The stop is before the last flush, of the log's count: 0 is loose, 1 is kept.
         WordShelf x = new WordShelf();
-        x.stop(11, KEEPS_OLD);
+        x.stop(11, Shelves.KEEPS_OLD);
         CHECKS.fails("17 add", STATE, () -> x.add(0, 5));
-        words("17 there, but", x, 0, 5);
+        CHECKS.words("17 there, but", x, 0, 5);
         CHECKS.is("17 set back", x.recover(), 1);
         CHECKS.is("17 nothing", x.counter(0), 0);
         WordShelf y = new WordShelf();
-        y.stop(11, KEEPS_NEW);
+        y.stop(11, Shelves.KEEPS_NEW);
         CHECKS.fails("17 add", STATE, () -> y.add(0, 5));
         CHECKS.is("17 not set back", y.recover(), 0);
         CHECKS.is("17 all", y.counter(0), 5);
@@ -606,9 +583,9 @@ public final class PromisesTest {
             x.begin();
             x.add(0, 1);
             x.add(3, 4);
-            x.stop(11, KEEPS_NEW);
+            x.stop(11, Shelves.KEEPS_NEW);
             CHECKS.fails("17 commit", STATE, x::commit);
-            x.stop(n, KEEPS_OLD);
+            x.stop(n, Shelves.KEEPS_OLD);
             CHECKS.fails("17 recover at stop " + n, STATE, x::recover);
             CHECKS.is("17 down still", x.look(0), 1);
             CHECKS.is("17 crashes", x.look(7), 2);
@@ -620,14 +597,14 @@ public final class PromisesTest {
         y.begin();
         y.add(0, 1);
         y.add(3, 4);
-        y.stop(11, KEEPS_NEW);
+        y.stop(11, Shelves.KEEPS_NEW);
         CHECKS.fails("17 commit", STATE, y::commit);
         // The last entry goes first: the store of word 3 is done, that of word 0 is not.
-        words("17 both or one", y, 3, y.word(3, true));
+        CHECKS.words("17 both or one", y, 3, y.word(3, true));
         long zero = y.word(0, true);
-        y.stop(1, KEEPS_NEW);
+        y.stop(1, Shelves.KEEPS_NEW);
         CHECKS.fails("17 recover", STATE, y::recover);
-        words("17 last entry first", y, 0, zero, 0, 0, 0);
+        CHECKS.words("17 last entry first", y, 0, zero, 0, 0, 0);
         y.stop(7, 0);
         CHECKS.is("17 just enough steps", y.recover(), 2);
         CHECKS.is("17 no step left", y.look(8), 0);
@@ -644,7 +621,7 @@ public final class PromisesTest {
         CHECKS.is("18 last", x.word(111, true), 0);
         CHECKS.fails("18 word(112)", INDEX, () -> x.word(112, false));
         CHECKS.fails("18 word(112)", INDEX, () -> x.word(112, true));
-        for (int w : NO_INDEX) {
+        for (int w : Shelves.NO_INDEX) {
             CHECKS.fails("18 word(" + w + ")", INDEX, () -> x.word(w, false));
             CHECKS.fails("18 word(" + w + ")", INDEX, () -> x.word(w, true));
         }
@@ -663,7 +640,7 @@ public final class PromisesTest {
             CHECKS.is("19 loose", x.loose(w), 0);
         }
         CHECKS.is("19 loose(112)", x.loose(112), -1);
-        for (int w : NO_INDEX) {
+        for (int w : Shelves.NO_INDEX) {
             CHECKS.is("19 loose(" + w + ")", x.loose(w), -1);
         }
     }
@@ -673,21 +650,21 @@ public final class PromisesTest {
         x.push(1);
         x.push(2);
         x.put(3, 4);
-        looks("20 look", x, 0, 0, 2, 1);
+        CHECKS.looks("20 look", x, 0, 0, 2, 1);
         x.begin();
         x.pop();
         x.put(4, 4);
         x.put(5, 4);
         x.stop(9, 0);
-        looks("20 in a transaction", x, 0, 1, 1, 3);
+        CHECKS.looks("20 in a transaction", x, 0, 1, 1, 3);
         CHECKS.is("20 to the stop", x.look(8), 9);
         x.crash(0);
-        looks("20 down", x, 1, 0, -1, -1);
+        CHECKS.looks("20 down", x, 1, 0, -1, -1);
         CHECKS.is("20 crashes", x.look(7), 1);
         x.recover();
-        looks("20 up", x, 0, 0, 2, 1);
+        CHECKS.looks("20 up", x, 0, 0, 2, 1);
         CHECKS.is("20 look(9)", x.look(9), -1);
-        for (int which : NO_INDEX) {
+        for (int which : Shelves.NO_INDEX) {
             CHECKS.is("20 look(" + which + ")", x.look(which), -1);
         }
     }
@@ -711,7 +688,7 @@ public final class PromisesTest {
 
     private static void auditWhenDown() {
         WordShelf x = new WordShelf();
-        x.stop(5, KEEPS_NEW);
+        x.stop(5, Shelves.KEEPS_NEW);
         CHECKS.fails("21 add", STATE, () -> x.add(0, 1));
         CHECKS.is("21 word 40 is 1", x.audit(), 3);
         x.recover();
@@ -723,7 +700,7 @@ public final class PromisesTest {
         y.put(7, 70);
         y.stop(14, seedKeeping(0, 1));
         CHECKS.fails("21 cut", STATE, () -> y.cut(4));
-        words("21 two equal keys", y, 14, 2, 7, 7);
+        CHECKS.words("21 two equal keys", y, 14, 2, 7, 7);
         CHECKS.is("21 keys do not rise", y.audit(), 2);
         CHECKS.is("21 set back", y.recover(), 3);
         CHECKS.is("21 set back", y.audit(), 0);
