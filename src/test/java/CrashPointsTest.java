@@ -18,6 +18,8 @@ public final class CrashPointsTest {
             Op.ofLongs("put", 1, 10), Op.ofLongs("cut", 7, 0), Op.ofLongs("put", 9, 91), Op.ofLongs("put", 12, 120));
 
     public static void main(String[] args) {
+        CHECKS.of("of each transaction all is there behind a crash, or nothing; the crash can come at any step, "
+                + "also while the shelf is being brought back");
         int steps = stepsOfCommit();
         CHECKS.is("a stop behind the last step is not met", runTo(steps, 0, new Model()).look(0), 0);
         for (int seed : SEEDS) {

@@ -1,8 +1,22 @@
-/** One method for each sentence of the section "Terms" that names a boundary case; the sentence is quoted. */
-public final class EdgesOfTermsTest {
+import java.util.Set;
+import java.util.TreeSet;
+
+/**
+ * One method or more for each sentence of the section "Terms", in their order; the sentence is quoted.
+ * The first sentence stands in CrashPointsTest, those of what throws or is refused in RefusalsTest, and
+ * what no run of calls shows of the steps in InsideTest.
+ */
+public final class TermsTest {
     private static final Checks CHECKS = new Checks();
     private static final Class<IllegalStateException> STATE = IllegalStateException.class;
     private static final int[] SEEDS = {0, 1, -1, 2, 3, 77777, -1103515245, Integer.MIN_VALUE, Integer.MAX_VALUE};
+    private static final String COMMIT_OF_TWO = "SSSSFE" + "SFE" + "SSFFE" + "SFE";
+    private static final String RECOVERY_OF_TWO = "SSFFE" + "SFE";
+
+    /** A shelf that was stopped before step n of the call that is looked at. */
+    interface Stopped {
+        WordShelf at(int n, int seed);
+    }
 
     public static void main(String[] args) {
         memory();
@@ -17,8 +31,11 @@ public final class EdgesOfTermsTest {
         has112Words();
         linesOfEight();
         looseAtFirstNone();
-        crashDrawsForLooseWordsOnly();
+        valuesAndKeptOnes();
         sameValueIsLooseToo();
+        flushKeepsNothing();
+        fenceKeepsFlushedLines();
+        crashDrawsForLooseWordsOnly();
         crashKeepsOneOfTheValues();
         seedWraps();
         behindACrashNoneAreLoose();
@@ -27,6 +44,7 @@ public final class EdgesOfTermsTest {
         stopBehindTheLastStep();
         stopBehindAllSteps();
         stopIsGone();
+        stopOutlastsOtherCrashes();
         placesOfTheShelf();
         placesOfTheLog();
     }
@@ -47,7 +65,9 @@ public final class EdgesOfTermsTest {
         byRisingNumbers();
         commitOfNone();
         commitOfOneToAllWords();
+        stepsOfACommit();
         linesOfTheLog();
+        changeOutside();
         changeOfNothingOutside();
     }
 
@@ -56,6 +76,7 @@ public final class EdgesOfTermsTest {
         recoverOfOne();
         recoverOfAllWords();
         recoverFromTheLastEntry();
+        stepsOfARecovery();
         snapshotsAreOfATime();
         none();
     }
@@ -101,6 +122,45 @@ public final class EdgesOfTermsTest {
         WordShelf x = new WordShelf();
         for (int w = 0; w < 112; w++) {
             CHECKS.is("loose(" + w + ")", x.loose(w), 0);
+        }
+    }
+
+    private static void valuesAndKeptOnes() {
+        CHECKS.of("A word has a VALUE, a KEPT value");
+        WordShelf x = Shelves.withAllWordsChanged();
+        x.commit();
+        for (int w = 0; w < 112; w++) {
+            CHECKS.is("fenced, word " + w + " is kept", x.word(w, true), x.word(w, false));
+            CHECKS.is("fenced, loose(" + w + ")", x.loose(w), 0);
+        }
+    }
+
+    private static void flushKeepsNothing() {
+        CHECKS.of("To FLUSH a line: it is FLUSHED, until the next fence.");
+        for (int seed : SEEDS) {
+            WordShelf x = Shelves.withAllWordsChanged();
+            // The log's 62 stores and 8 flushes; the fence is not done.
+            x.stop(70, seed);
+            CHECKS.fails("commit", STATE, x::commit);
+            CHECKS.is("flushes", x.look(5), 8);
+            int[] r = Shelves.drawn(seed, 62);
+            for (int e = 0; e < 31; e++) {
+                CHECKS.words("flushed, seed " + seed, x, 48 + 2 * e, e * r[2 * e], 0);
+            }
+        }
+    }
+
+    private static void fenceKeepsFlushedLines() {
+        CHECKS.of("A FENCE: of each word in a line that is flushed the value is kept, "
+                + "and it has no loose ones any more.");
+        for (int seed : SEEDS) {
+            WordShelf x = Shelves.withAllWordsChanged();
+            x.stop(71, seed);
+            CHECKS.fails("commit", STATE, x::commit);
+            CHECKS.is("fences", x.look(6), 1);
+            for (int e = 0; e < 31; e++) {
+                CHECKS.words("fenced, seed " + seed, x, 48 + 2 * e, e, 0);
+            }
         }
     }
 
@@ -243,6 +303,20 @@ public final class EdgesOfTermsTest {
         x.recover();
         CHECKS.is("not met again", x.add(0, 1), 1);
         CHECKS.is("one crash", x.look(7), 1);
+    }
+
+    private static void stopOutlastsOtherCrashes() {
+        CHECKS.of("there is a CRASH with its seed instead, the stop is gone: by no other CRASH");
+        WordShelf x = new WordShelf();
+        x.add(0, 5);
+        x.stop(8, Shelves.KEEPS_NEW);
+        x.crash(Shelves.KEEPS_OLD);
+        CHECKS.is("a CRASH is no step", x.look(8), 8);
+        CHECKS.is("nor is a recovery of none", x.recover(), 0);
+        CHECKS.is("still there", x.look(8), 8);
+        CHECKS.fails("met behind 8 steps", STATE, () -> x.add(0, 1));
+        CHECKS.words("with its own seed", x, 0, 6);
+        CHECKS.is("gone", x.look(8), -1);
     }
 
     private static void placesOfTheShelf() {
@@ -464,6 +538,114 @@ public final class EdgesOfTermsTest {
         CHECKS.steps("31 words", y, 62 + 1 + 31 + 1, 8 + 1 + 4 + 1, 4, y::commit);
     }
 
+    /** The words 0 and 23 get other values, from 5 and 70 to 6 and 71, by a transaction that is not yet committed. */
+    private static WordShelf withTwoWordsChanged() {
+        WordShelf x = new WordShelf();
+        x.add(0, 5);
+        x.put(7, 70);
+        x.begin();
+        x.add(0, 1);
+        x.put(7, 71);
+        return x;
+    }
+
+    private static WordShelf stoppedInCommit(int n, int seed) {
+        WordShelf x = withTwoWordsChanged();
+        x.stop(n, seed);
+        CHECKS.fails("commit with a stop at " + n, STATE, x::commit);
+        return x;
+    }
+
+    /** The commit was stopped where all but the log's count is done. */
+    private static WordShelf stoppedInRecovery(int n, int seed) {
+        WordShelf x = stoppedInCommit(14, seed);
+        x.stop(n, seed);
+        CHECKS.fails("recover with a stop at " + n, STATE, x::recover);
+        return x;
+    }
+
+    private static void stepsOfACommit() {
+        CHECKS.of("STEPS: for e = 0 .. n - 1: STORE w(e) in word 48 + 2 * e, STORE the memory's value of w(e) in "
+                + "49 + 2 * e; FLUSH each line that has one of those, by rising numbers; FENCE; STORE n in 40; "
+                + "FLUSH line 5; FENCE; STORE the new value in each w(e); FLUSH each line that has one of those, "
+                + "by rising numbers; FENCE; STORE 0 in 40; FLUSH line 5; FENCE.");
+        Stopped commit = TermsTest::stoppedInCommit;
+        checkKinds(commit, withTwoWordsChanged(), COMMIT_OF_TWO);
+        // The log had the words 14, 15 and 23 of the put before.
+        checkWord(commit, 48, 14, 0, 0, 5, 17);
+        checkWord(commit, 49, 0, 5, 1, 5, 17);
+        checkWord(commit, 50, 15, 23, 2, 5, 17);
+        checkWord(commit, 51, 0, 70, 3, 5, 17);
+        checkWord(commit, 52, 23, 23, 17, 17, 17);
+        checkWord(commit, 40, 0, 2, 6, 8, 15);
+        checkWord(commit, 0, 5, 6, 9, 13, 17);
+        checkWord(commit, 23, 70, 71, 10, 13, 17);
+        CHECKS.same("word 40, its last store done", possible(commit, 40, 15), Set.of(0L, 2L));
+        CHECKS.same("word 40, its last flush done", possible(commit, 40, 16), Set.of(0L, 2L));
+        WordShelf x = withTwoWordsChanged();
+        x.stop(17, 0);
+        CHECKS.is("no more steps", x.commit(), 2);
+        CHECKS.is("no more steps", x.look(8), 0);
+        CHECKS.words("word 40, all done", x, 40, 0);
+    }
+
+    private static void stepsOfARecovery() {
+        CHECKS.of("for e = n - 1, .. 0: STORE the OLD value e in the word with the ADDRESS e; FLUSH each line that "
+                + "has one of those, by rising numbers; FENCE; STORE 0 in 40; FLUSH line 5; FENCE.");
+        Stopped recovery = TermsTest::stoppedInRecovery;
+        checkKinds(recovery, stoppedInCommit(14, 0), RECOVERY_OF_TWO);
+        checkWord(recovery, 23, 71, 70, 0, 4, 8);
+        checkWord(recovery, 0, 6, 5, 1, 4, 8);
+        checkWord(recovery, 40, 2, 0, 5, 7, 8);
+        checkWord(recovery, 48, 0, 0, 8, 8, 8);
+        WordShelf x = stoppedInCommit(14, 0);
+        x.stop(8, 0);
+        CHECKS.is("no more steps", x.recover(), 2);
+        CHECKS.is("no more steps", x.look(8), 0);
+        CHECKS.words("word 40, all done", x, 40, 0);
+        CHECKS.of("Then the shelf is up.");
+        CHECKS.looks("up", x, 0, 0, 0, 1);
+        CHECKS.is("as before", x.counter(0), 5);
+        CHECKS.is("as before", x.next(7, false), 70);
+        x.stop(1000, 0);
+        CHECKS.is("the next change", x.add(0, 2), 7);
+    }
+
+    /** The kinds of the steps, store, flush and fence, as the counts of a shelf stopped before each of them show. */
+    private static void checkKinds(Stopped call, WordShelf before, String kinds) {
+        int[] due = {before.look(4), before.look(5), before.look(6)};
+        for (int n = 0; n < kinds.length(); n++) {
+            WordShelf x = call.at(n, Shelves.KEEPS_OLD);
+            for (int kind = 0; kind < 3; kind++) {
+                CHECKS.is("before step " + n + ": look(" + (4 + kind) + ")", x.look(4 + kind), due[kind]);
+            }
+            due["SFE".indexOf(kinds.charAt(n))]++;
+        }
+    }
+
+    /** A word has its old value, then any of both behind its store, then its new one behind the fence. */
+    private static void checkWord(Stopped call, int w, long old, long now, int stored, int fenced, int end) {
+        for (int n = 0; n < end; n++) {
+            Set<Long> due = new TreeSet<>();
+            if (n <= fenced) {
+                due.add(old);
+            }
+            if (n > stored) {
+                due.add(now);
+            }
+            CHECKS.same("word " + w + " before step " + n, possible(call, w, n), due);
+        }
+    }
+
+    /** What a word is behind a crash before step n, over so many seeds that each choice comes up. */
+    private static Set<Long> possible(Stopped call, int w, int n) {
+        Set<Long> values = new TreeSet<>();
+        for (int seed = 0; seed < 64; seed++) {
+            values.add(call.at(n, seed).word(w, true));
+        }
+        return values;
+    }
+
     private static void linesOfTheLog() {
         CHECKS.of("FLUSH each line that has one of those, by rising numbers");
         WordShelf x = new WordShelf();
@@ -496,8 +678,27 @@ public final class EdgesOfTermsTest {
         }
     }
 
-    private static void changeOfNothingOutside() {
+    private static void changeOutside() {
         CHECKS.of("A change outside of a transaction is one of its own, committed at once.");
+        WordShelf x = new WordShelf();
+        CHECKS.steps("ADD", x, 5, 4, 4, () -> x.add(3, 9));
+        CHECKS.words("ADD", x, 3, 9);
+        CHECKS.steps("PUSH", x, 8, 4, 4, () -> x.push(8));
+        CHECKS.words("PUSH", x, 4, 0, 1, 8);
+        CHECKS.steps("PUT", x, 11, 5, 4, () -> x.put(7, 70));
+        CHECKS.words("PUT", x, 14, 1, 7);
+        CHECKS.words("PUT", x, 23, 70);
+        CHECKS.steps("POP", x, 8, 4, 4, x::pop);
+        CHECKS.words("POP", x, 4, 1, 0, 8);
+        CHECKS.steps("CUT", x, 5, 4, 4, () -> x.cut(7));
+        CHECKS.words("CUT", x, 14, 0, 7);
+        CHECKS.looks("no transaction is left", x, 0, 0);
+        x.begin();
+        CHECKS.steps("none in a transaction", x, 0, 0, 0, () -> x.add(3, 1));
+    }
+
+    private static void changeOfNothingOutside() {
+        CHECKS.of("A change outside of a transaction is one of its own, committed at once: of no word.");
         WordShelf x = Shelves.withMap(8);
         x.stop(0, 0);
         CHECKS.is("add of 0", x.add(2, 0), 0);
